@@ -396,14 +396,14 @@ public final class ExitFlows {
             System.arraycopy(other.shut, 0, shut, 0, PASSAGES);
         }
 
-        private void addPassage(int start, int end, int wide, int longness) {
+        private void addPassage(int start, int end, int wide, int far) {
             if (passages >= PASSAGES) {
                 return;
             }
             from[passages] = start;
             to[passages] = end;
             width[passages] = wide;
-            length[passages] = longness;
+            length[passages] = far;
             shut[passages] = NEVER;
             passages++;
         }
@@ -693,6 +693,7 @@ public final class ExitFlows {
             latest[room] = tick;
         }
 
+        /** Each step leads to a place that was reached before the step was put: so the way ends, in a safe room. */
         private void traceWay(int start) {
             int room = start;
             int tick = 0;

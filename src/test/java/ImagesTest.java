@@ -4,6 +4,7 @@ public final class ImagesTest {
 
     public static void main(String[] args) {
         keepAndRestore();
+        imagesOfOtherPassages();
         refused();
         padStays();
         count();
@@ -56,6 +57,24 @@ public final class ImagesTest {
         x.restore(1);
         check.due("width of the new image", x.of(0, 2), 6);
         check.due("passages of the new image", x.count(1), 3);
+    }
+
+    private static void imagesOfOtherPassages() {
+        ExitFlows x = new ExitFlows();
+        x.image(0);
+        Say.text(x, "ab34bc12");
+        x.read();
+        x.shut(0, 5);
+        x.image(1);
+        String first = Say.state(x);
+        x.restore(0);
+        check.due("no passages", x.count(1), 0);
+        Say.text(x, "fe61dc53");
+        x.read();
+        check.due("another from", x.of(0, 0), 5);
+        check.due("never shut", x.of(0, 4), -6);
+        x.restore(1);
+        check.that("from, to, width, length, shut as they were", Say.state(x).equals(first));
     }
 
     private static void refused() {
