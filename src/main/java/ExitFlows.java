@@ -601,6 +601,9 @@ public final class ExitFlows {
                     return led;
                 }
                 traceWay(room);
+                if (wayWidth <= 0) {
+                    return led;
+                }
                 leadAlongWay(room);
             }
             return led;
@@ -693,29 +696,33 @@ public final class ExitFlows {
             latest[room] = tick;
         }
 
-        /** Each step leads to a place that was reached before the step was put: so the way ends, in a safe room. */
+        /**
+         * Each step leads to a place that was reached before the step was put: so the way ends, in a safe room.
+         * Were there ever a place without a step, the way would have no width, and nobody would be led along it.
+         */
         private void traceWay(int start) {
             int room = start;
             int tick = 0;
-            waySteps = 0;
             wayWidth = notLed[start];
-            while (waySteps < PLACES && !isIn(safeRooms, room)) {
+            for (waySteps = 0; waySteps < PLACES && !isIn(safeRooms, room); waySteps++) {
                 int next = step[room * TICKS + tick];
                 boolean ahead = next > 0;
-                int lane = ahead ? next - 1 : -next - 1;
-                if (!ahead) {
-                    tick -= length[lane];
+                int lane = Math.abs(next) - 1;
+                if (!isWithin(lane, 0, lanes - 1)) {
+                    wayWidth = 0;
+                    return;
                 }
-                int entry = lane * TICKS + tick;
-                int free = ahead ? width[lane] - entering[entry] : entering[entry];
-                wayWidth = Math.min(wayWidth, free);
-                wayEntry[waySteps] = entry;
-                wayAhead[waySteps] = ahead;
-                waySteps++;
-                if (ahead) {
-                    tick += length[lane];
+                int entryTick = ahead ? tick : tick - length[lane];
+                tick = ahead ? tick + length[lane] : entryTick;
+                if (!isWithin(entryTick, 0, LAST_TICK) || !isWithin(tick, 0, LAST_TICK)) {
+                    wayWidth = 0;
+                    return;
                 }
                 room = ahead ? to[lane] : from[lane];
+                int entry = lane * TICKS + entryTick;
+                wayWidth = Math.min(wayWidth, ahead ? width[lane] - entering[entry] : entering[entry]);
+                wayEntry[waySteps] = entry;
+                wayAhead[waySteps] = ahead;
             }
         }
 

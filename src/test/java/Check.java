@@ -2,12 +2,18 @@
 final class Check {
     private int looked = 0;
     private int wrong = 0;
+    private String sentence = "";
+
+    /** The document's sentence that the answers from here on are held against. */
+    void about(String words) {
+        sentence = words + " | ";
+    }
 
     void due(String call, long got, long want) {
         looked++;
         if (got != want) {
             wrong++;
-            System.out.println(call + " answered " + got + ", due is " + want);
+            System.out.println(sentence + call + " answered " + got + ", due is " + want);
         }
     }
 

@@ -40,4 +40,22 @@ final class Say {
         }
         return all.append(x.fault()).toString();
     }
+
+    /** What the searching calls answer. */
+    static String answers(ExitFlows x) {
+        StringBuilder all = new StringBuilder();
+        for (int tick = 0; tick <= 60; tick += 4) {
+            all.append(x.out(tick)).append(' ').append(x.rush(tick)).append(' ');
+        }
+        for (int passage = 0; passage < x.count(1); passage++) {
+            all.append(x.door(passage)).append(' ');
+        }
+        all.append(x.last()).append(' ').append(x.helps()).append(' ').append(x.needed()).append(' ');
+        return all.append(x.rushed()).toString();
+    }
+
+    /** What an image keeps, told by bringing it back. */
+    static String restored(ExitFlows x, int k) {
+        return x.restore(k) + " " + state(x) + " " + answers(x);
+    }
 }
