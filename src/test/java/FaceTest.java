@@ -43,6 +43,14 @@ public final class FaceTest {
                 names.add(ints ? method.getName() + method.getParameterCount() : "not of ints: " + method);
             }
         }
+        for (Class<?> inside : face.getDeclaredClasses()) {
+            for (Method method : inside.getDeclaredMethods()) {
+                own.add(method.getName());
+            }
+            if (!Modifier.isStatic(inside.getModifiers()) || Modifier.isPublic(inside.getModifiers())) {
+                names.add("a class inside that is not static, or public: " + inside);
+            }
+        }
         for (Method method : face.getMethods()) {
             if (own.contains(method.getName())) {
                 names.add("private, but named like a public one: " + method.getName());

@@ -8,6 +8,7 @@ public final class ImagesEdgesTest {
         inPlaceOfWhatWasKept();
         laterChangesDoNotReachIt();
         asTheyWereWhenTheyWereKept();
+        passagesThatCameLaterAreGone();
         anImageOfNothing();
         aFullImage();
         theImageStays();
@@ -92,6 +93,24 @@ public final class ImagesEdgesTest {
         check.due("its length", x.of(1, 3), 2);
         check.due("restore(1) twice", x.restore(1) + x.restore(1), 2);
         check.due("passages then", x.count(1), 1);
+    }
+
+    private static void passagesThatCameLaterAreGone() {
+        check.about("21: PASSAGES are as they were: nobody goes by one that came later");
+        ExitFlows x = Say.plan("ab12", "b");
+        x.room(0, 3, 1);
+        x.image(0);
+        x.passage(0, 1, 6, 1);
+        check.due("rushed() by the wide one", x.rushed(), 1);
+        check.due("last() by the wide one", x.last(), 1);
+        x.restore(0);
+        check.due("rushed()", x.rushed(), 4);
+        check.due("rush(1)", x.rush(1), 0);
+        check.due("last()", x.last(), 4);
+        check.due("out(1)", x.out(1), 0);
+        check.due("helps()", x.helps(), 1);
+        check.due("needed()", x.needed(), 1);
+        check.due("door(0)", x.door(0), 3);
     }
 
     private static void anImageOfNothing() {

@@ -17,6 +17,7 @@ public final class RushEdgesTest {
         ticks0To200();
         rushedIsLeast();
         rushedBeyond60();
+        tenPassagesThatShut();
         rushedNone();
         check.end();
     }
@@ -193,6 +194,22 @@ public final class RushEdgesTest {
         x.shut(4, 60);
         check.due("shut from 60 on", x.rushed(), NONE);
         check.due("who went in before", x.rush(200), 48);
+    }
+
+    /** The longest rush that a search by trial found: 200 itself, it seems, is never the answer. */
+    private static void tenPassagesThatShut() {
+        check.about("19: 0 to 200: the longest known");
+        ExitFlows x = Say.plan("af11ed13bc14be64df24da52ab54cd24ea34cb64", "f");
+        for (int room = 0; room < 6; room++) {
+            x.room(room, 30, 1);
+        }
+        x.shut(0, 27);
+        x.shut(1, 56);
+        x.shut(5, 20);
+        check.due("rushed()", x.rushed(), 177);
+        check.due("rush(176)", x.rush(176), 179);
+        check.due("rush(177)", x.rush(177), 180);
+        check.due("rush(200)", x.rush(200), 180);
     }
 
     private static void rushedNone() {
