@@ -17,7 +17,7 @@ public final class RushEdgesTest {
         ticks0To200();
         rushedIsLeast();
         rushedBeyond60();
-        tenPassagesThatShut();
+        passagesThatShutInTurn();
         rushedNone();
         check.end();
     }
@@ -196,19 +196,25 @@ public final class RushEdgesTest {
         check.due("who went in before", x.rush(200), 48);
     }
 
-    /** The longest rush that a search by trial found: 200 itself, it seems, is never the answer. */
-    private static void tenPassagesThatShut() {
+    /** The longest rush that a search by trial found, time and again: 200 itself, it seems, is never the answer. */
+    private static void passagesThatShutInTurn() {
         check.about("19: 0 to 200: the longest known");
-        ExitFlows x = Say.plan("af11ed13bc14be64df24da52ab54cd24ea34cb64", "f");
+        ExitFlows x = Say.plan("ab62da64ce64bc14bc61ed64bf12cf11af34", "f");
         for (int room = 0; room < 6; room++) {
             x.room(room, 30, 1);
         }
-        x.shut(0, 27);
-        x.shut(1, 56);
-        x.shut(5, 20);
-        check.due("rushed()", x.rushed(), 177);
-        check.due("rush(176)", x.rush(176), 179);
-        check.due("rush(177)", x.rush(177), 180);
+        x.shut(7, 25);
+        x.shut(4, 37);
+        x.shut(6, 60);
+        check.due("rushed()", x.rushed(), 183);
+        check.due("rush(25), the last one out by the first door", x.rush(25), 55);
+        check.due("rush(40), on the way to the second", x.rush(40), 55);
+        check.due("rush(41), the first one out by the second", x.rush(41), 56);
+        check.due("rush(61), the last one out by the second", x.rush(61), 76);
+        check.due("rush(79), on the way to the third", x.rush(79), 76);
+        check.due("rush(80), the first one out by the third", x.rush(80), 77);
+        check.due("rush(182)", x.rush(182), 179);
+        check.due("rush(183)", x.rush(183), 180);
         check.due("rush(200)", x.rush(200), 180);
     }
 
